@@ -690,12 +690,18 @@ public final class BidMosaic {
             return NONE;
         }
 
+        /** This runs some 50,000 times in a dear REPAIR: it looks at the numbers once, not in the loop. */
         private void makeBid(int bidder, int step) {
+            if (!Sale.isInRow(bidder) || slots > MOST_SLOTS) {
+                return;
+            }
+            int[] prices = sale.prices;
+            int row = bidder * MOST_SLOTS;
             int best = 0;
-            int most = gainOf(bidder, 0);
+            int most = worths[row] - prices[0];
             int second = most;
             for (int slot = 1; slot < slots; slot++) {
-                int here = gainOf(bidder, slot);
+                int here = worths[row + slot] - prices[slot];
                 if (here > most) {
                     second = most;
                     most = here;
@@ -704,7 +710,7 @@ public final class BidMosaic {
                     second = here;
                 }
             }
-            sale.prices[best] += most - second + step;
+            prices[best] += most - second + step;
             sale.give(best, bidder);
         }
 
