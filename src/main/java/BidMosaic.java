@@ -17,6 +17,8 @@ public final class BidMosaic {
     private static final int LEAST_SHRINK = 2;
     private static final int MOST_SHRINK = 9;
     private static final int FIRST_SHRINK = 4;
+    /** The first STEP is a fourth. */
+    private static final int FIRST_PART = 4;
     private static final int IMAGES = 2;
     private static final int TOLD_OF_CELLS = 100;
 
@@ -29,13 +31,13 @@ public final class BidMosaic {
      */
     private static final int MOST_BIDS = 1000000;
 
-    private final Picture now;
     private final Bidding bidding;
+    private final Picture now;
     private final Picture[] images;
 
     public BidMosaic() {
-        now = new Picture();
-        bidding = new Bidding(now);
+        bidding = new Bidding();
+        now = bidding.picture;
         images = new Picture[IMAGES];
     }
 
@@ -323,7 +325,7 @@ public final class BidMosaic {
         }
 
         private int numberOf(int wanted) {
-            for (int i = 0; has(i); i++) {
+            for (int i = 0; i < count && i < MOST_KINDS; i++) {
                 if (dots[i] == wanted) {
                     return i;
                 }
@@ -337,7 +339,7 @@ public final class BidMosaic {
 
         private int firstSlot(int kind) {
             int sum = 0;
-            for (int i = 0; i < kind && has(i); i++) {
+            for (int i = 0; i < kind && i < MOST_KINDS; i++) {
                 sum += stocks[i];
             }
             return sum;
@@ -345,7 +347,7 @@ public final class BidMosaic {
 
         private int ofSlot(int slot) {
             int behind = 0;
-            for (int i = 0; has(i); i++) {
+            for (int i = 0; i < count && i < MOST_KINDS; i++) {
                 behind += stocks[i];
                 if (slot >= 0 && slot < behind) {
                     return i;
@@ -380,7 +382,7 @@ public final class BidMosaic {
                 return;
             }
             count--;
-            for (int i = kind; has(i) && i + 1 < MOST_KINDS; i++) {
+            for (int i = kind; i < count && i + 1 < MOST_KINDS; i++) {
                 dots[i] = dots[i + 1];
                 stocks[i] = stocks[i + 1];
             }
@@ -419,7 +421,7 @@ public final class BidMosaic {
                 return;
             }
             count--;
-            for (int i = cell; has(i) && i + 1 < MOST_CELLS; i++) {
+            for (int i = cell; i < count && i + 1 < MOST_CELLS; i++) {
                 dots[i] = dots[i + 1];
             }
         }
@@ -463,8 +465,6 @@ public final class BidMosaic {
         }
 
         private void begin() {
-            valid = false;
-            bids = 0;
             phases = 0;
             for (int i = 0; i < MOST_SLOTS; i++) {
                 prices[i] = 0;
@@ -611,7 +611,7 @@ public final class BidMosaic {
         }
     }
 
-    /** The BIDS for one picture. */
+    /** A picture, and the BIDS for it. */
     private static final class Bidding {
         private final Picture picture;
         private final Sale sale;
@@ -619,8 +619,8 @@ public final class BidMosaic {
         private final int[] worths;
         private int slots;
 
-        private Bidding(Picture picture) {
-            this.picture = picture;
+        private Bidding() {
+            picture = new Picture();
             sale = picture.sale;
             worths = new int[MOST_SLOTS * MOST_SLOTS];
         }
@@ -630,16 +630,20 @@ public final class BidMosaic {
             for (int slot = 0; slot < slots; slot++) {
                 int kind = picture.kinds.ofSlot(slot);
                 for (int bidder = 0; bidder < slots; bidder++) {
-                    int apart = picture.apart(bidder, kind);
-                    worths[bidder * MOST_SLOTS + slot] = -apart * (slots + 1);
+                    worths[bidder * MOST_SLOTS + slot] = worth(bidder, kind);
                 }
             }
+        }
+
+        private int worth(int bidder, int kind) {
+            boolean idle = !picture.cells.has(bidder);
+            return idle ? 0 : -picture.apart(bidder, kind) * (slots + 1);
         }
 
         private int holdAuction() {
             readWorths();
             sale.begin();
-            int step = Math.max(1, picture.greatestDifference() * (slots + 1) / 4);
+            int step = Math.max(1, picture.greatestDifference() * (slots + 1) / FIRST_PART);
             int bids = auctionPhase(step);
             for (int i = 1; i < MOST_PHASES && step > 1; i++) {
                 step = Math.max(1, step / Math.max(LEAST_SHRINK, picture.shrink));
