@@ -5,18 +5,66 @@ import java.util.Random;
 final class LeastTotalTest {
     private static final Check check = new Check();
 
+    /** What an object answers, each asked once, as it is used for so many calls only. */
+    private static final class Seen {
+        final int kinds;
+        final int cells;
+        final int slots;
+        final int total;
+        final int[] stock;
+        final int[] have;
+        final int[][] difference;
+        final int[] place;
+        final int[][] gain;
+        final int[][] slot;
+
+        Seen(BidMosaic x) {
+            kinds = x.told(2);
+            cells = x.told(3);
+            slots = x.told(4);
+            total = x.total();
+            stock = new int[kinds];
+            have = new int[kinds];
+            difference = new int[cells][kinds];
+            place = new int[cells];
+            gain = new int[cells][2];
+            slot = new int[slots][3];
+            for (int kind = 0; kind < kinds; kind++) {
+                stock[kind] = x.kind(kind, 1);
+                have[kind] = x.kind(kind, 3);
+            }
+            for (int cell = 0; cell < cells; cell++) {
+                place[cell] = x.place(cell);
+                for (int kind = 0; kind < kinds; kind++) {
+                    difference[cell][kind] = x.difference(cell, kind);
+                }
+                for (int what = 0; what < 2; what++) {
+                    gain[cell][what] = x.gain(cell, what);
+                }
+            }
+            for (int number = 0; number < slots; number++) {
+                for (int what = 0; what < 3; what++) {
+                    slot[number][what] = x.slot(number, what);
+                }
+            }
+        }
+    }
+
     public static void main(String[] args) {
         Random random = new Random(20);
         for (int i = 0; i < 400; i++) {
-            BidMosaic x = filled(random);
-            check.holds("auction()", x.auction() >= x.told(4));
-            proved(x);
-            for (int j = 0; j < 4 && x.told(3) > 0; j++) {
+            Run run = filled(random);
+            int cells = run.answer("told 3");
+            check.holds("auction()", run.answer("auction") >= run.answer("told 4"));
+            run = run.then("auction");
+            proved(new Seen(run.play()));
+            for (int j = 0; j < 4 && cells > 0; j++) {
                 for (int k = random.nextInt(3); k >= 0; k--) {
-                    x.change(random.nextInt(x.told(3)), dots(random));
+                    run = run.then("change " + random.nextInt(cells) + " " + dots(random));
                 }
-                check.holds("repair()", x.repair() >= 0);
-                proved(x);
+                check.holds("repair()", run.answer("repair") >= 0);
+                run = run.then("repair");
+                proved(new Seen(run.play()));
             }
         }
         check.end();
@@ -26,97 +74,93 @@ final class LeastTotalTest {
         return random.nextBoolean() ? random.nextInt(10000) : 1111 * random.nextInt(10);
     }
 
-    private static BidMosaic filled(Random random) {
-        BidMosaic x = new BidMosaic();
-        x.mode(random.nextInt(2));
-        x.shrink(2 + random.nextInt(8));
+    private static Run filled(Random random) {
+        Run run = new Run(check, "mode " + random.nextInt(2) + "; shrink " + (2 + random.nextInt(8)));
         for (int i = random.nextInt(8); i >= 0; i--) {
-            x.stock(dots(random), 1 + random.nextInt(4));
+            run = run.then("stock " + dots(random) + " " + (1 + random.nextInt(4)));
         }
-        for (int i = random.nextInt(13); i > 0 && x.told(3) < x.told(4); i--) {
-            x.cell(dots(random));
+        int slots = run.answer("told 4");
+        for (int i = Math.min(slots, random.nextInt(13)); i > 0; i--) {
+            run = run.then("cell " + dots(random));
         }
-        return x;
+        return run;
     }
 
-    private static void proved(BidMosaic x) {
-        check.due("total()", x.total(), least(x));
-        check.due("the DIFFERENCES of what each has", sumOfPlaces(x), x.total());
+    private static void proved(Seen x) {
+        check.due("total()", x.total, least(x));
+        check.due("the DIFFERENCES of what each has", sumOfPlaces(x), x.total);
         cellsAreContent(x);
         slotsAreTaken(x);
         int have = 0;
-        for (int kind = 0; kind < x.told(2); kind++) {
-            have += x.kind(kind, 3);
-            check.holds("no more than there are", x.kind(kind, 3) <= x.kind(kind, 1));
+        for (int kind = 0; kind < x.kinds; kind++) {
+            have += x.have[kind];
+            check.holds("no more than there are", x.have[kind] <= x.stock[kind]);
         }
-        check.due("each CELL has one", have, x.told(3));
+        check.due("each CELL has one", have, x.cells);
     }
 
-    private static int sumOfPlaces(BidMosaic x) {
+    private static int sumOfPlaces(Seen x) {
         int sum = 0;
-        for (int cell = 0; cell < x.told(3); cell++) {
-            sum += x.difference(cell, x.place(cell));
+        for (int cell = 0; cell < x.cells; cell++) {
+            sum += x.difference[cell][x.place[cell]];
         }
         return sum;
     }
 
-    private static void cellsAreContent(BidMosaic x) {
-        int slots = x.told(4);
-        for (int cell = 0; cell < x.told(3); cell++) {
+    private static void cellsAreContent(Seen x) {
+        for (int cell = 0; cell < x.cells; cell++) {
             int greatest = Integer.MIN_VALUE;
-            for (int slot = 0; slot < slots; slot++) {
-                int gain = -x.difference(cell, x.slot(slot, 1)) * (slots + 1) - x.slot(slot, 0);
+            for (int[] slot : x.slot) {
+                int gain = -x.difference[cell][slot[1]] * (x.slots + 1) - slot[0];
                 greatest = Math.max(greatest, gain);
-                if (x.slot(slot, 2) == cell) {
-                    check.due("gain(" + cell + ", 0)", x.gain(cell, 0), gain);
-                    check.due("place(" + cell + ")", x.place(cell), x.slot(slot, 1));
+                if (slot[2] == cell) {
+                    check.due("gain(" + cell + ", 0)", x.gain[cell][0], gain);
+                    check.due("place(" + cell + ")", x.place[cell], slot[1]);
                 }
             }
-            check.due("gain(" + cell + ", 1)", x.gain(cell, 1), greatest);
-            check.holds("CELL " + cell + " is content", x.gain(cell, 0) >= greatest - 1);
+            check.due("gain(" + cell + ", 1)", x.gain[cell][1], greatest);
+            check.holds("CELL " + cell + " is content", x.gain[cell][0] >= greatest - 1);
         }
     }
 
-    private static void slotsAreTaken(BidMosaic x) {
+    private static void slotsAreTaken(Seen x) {
         int cheapest = Integer.MAX_VALUE;
-        boolean[] seen = new boolean[x.told(3)];
-        for (int slot = 0; slot < x.told(4); slot++) {
-            cheapest = Math.min(cheapest, x.slot(slot, 0));
+        boolean[] seen = new boolean[x.cells];
+        for (int[] slot : x.slot) {
+            cheapest = Math.min(cheapest, slot[0]);
         }
         int idle = 0;
-        for (int slot = 0; slot < x.told(4); slot++) {
-            int cell = x.slot(slot, 2);
-            if (cell == BidMosaic.NONE) {
+        for (int[] slot : x.slot) {
+            if (slot[2] == BidMosaic.NONE) {
                 idle++;
-                check.holds("the idle one of SLOT " + slot + " is content", x.slot(slot, 0) <= cheapest + 1);
+                check.holds("an idle one is content", slot[0] <= cheapest + 1);
             } else {
-                check.holds("CELL " + cell + " has one SLOT", !seen[cell]);
-                seen[cell] = true;
+                check.holds("CELL " + slot[2] + " has one SLOT", !seen[slot[2]]);
+                seen[slot[2]] = true;
             }
         }
-        check.due("idle ones", idle, x.told(4) - x.told(3));
+        check.due("idle ones", idle, x.slots - x.cells);
     }
 
     /** The least sum there can be, over all ways of giving CELLS, one by one, what is left of the KINDS. */
-    private static int least(BidMosaic x) {
-        int kinds = x.told(2);
-        int[] unit = new int[kinds + 1];
+    private static int least(Seen x) {
+        int[] unit = new int[x.kinds + 1];
         unit[0] = 1;
-        for (int kind = 0; kind < kinds; kind++) {
-            unit[kind + 1] = unit[kind] * (x.kind(kind, 1) + 1);
+        for (int kind = 0; kind < x.kinds; kind++) {
+            unit[kind + 1] = unit[kind] * (x.stock[kind] + 1);
         }
         int never = 1000000;
-        int[] sums = new int[unit[kinds]];
+        int[] sums = new int[unit[x.kinds]];
         Arrays.fill(sums, never);
         sums[0] = 0;
-        for (int cell = 0; cell < x.told(3); cell++) {
+        for (int cell = 0; cell < x.cells; cell++) {
             int[] next = new int[sums.length];
             Arrays.fill(next, never);
             for (int taken = 0; taken < sums.length; taken++) {
-                for (int kind = 0; kind < kinds && sums[taken] < never; kind++) {
-                    if (taken / unit[kind] % (x.kind(kind, 1) + 1) < x.kind(kind, 1)) {
+                for (int kind = 0; kind < x.kinds && sums[taken] < never; kind++) {
+                    if (taken / unit[kind] % (x.stock[kind] + 1) < x.stock[kind]) {
                         int then = taken + unit[kind];
-                        next[then] = Math.min(next[then], sums[taken] + x.difference(cell, kind));
+                        next[then] = Math.min(next[then], sums[taken] + x.difference[cell][kind]);
                     }
                 }
             }

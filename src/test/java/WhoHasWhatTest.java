@@ -1,4 +1,4 @@
-/** Promises 15 to 21: place, slot, gain, total, image, restore, told. */
+/** Promises 15 to 18 and 21: place, slot, gain, total, told. */
 final class WhoHasWhatTest {
     private static final int[] FAR_OFF = {-1, 16, 17, Integer.MIN_VALUE, Integer.MAX_VALUE};
     private static final Check check = new Check();
@@ -10,10 +10,6 @@ final class WhoHasWhatTest {
         gain();
         gainIsRefused();
         total();
-        image();
-        imageOfMore();
-        imagesAreApart();
-        restoreIsRefused();
         told();
         check.end();
     }
@@ -161,84 +157,6 @@ final class WhoHasWhatTest {
         check.due("no CELLS", x.total(), 0);
     }
 
-    private static void image() {
-        BidMosaic x = threeSlots();
-        x.shrink(7);
-        x.auction();
-        x.change(0, 5);
-        long[] before = all(x);
-        check.due("image(0)", x.image(0), 1);
-        same("image changes nothing", all(x), before);
-        x.repair();
-        long[] repaired = all(x);
-        check.due("image(1)", x.image(1), 1);
-        spoil(x);
-        check.due("restore(0)", x.restore(0), 1);
-        same("IMAGE 0", all(x), before);
-        check.due("repair() behind restore", x.repair(), repaired[8]);
-        same("IMAGE 0, repaired", all(x), repaired);
-        spoil(x);
-        check.due("restore(1)", x.restore(1), 1);
-        same("IMAGE 1", all(x), repaired);
-        spoil(x);
-        x.restore(0);
-        same("IMAGE 0 once more", all(x), before);
-        x.image(1);
-        spoil(x);
-        x.restore(1);
-        same("IMAGE 1, kept anew", all(x), before);
-    }
-
-    private static void imageOfMore() {
-        BidMosaic x = new BidMosaic();
-        x.image(0);
-        long[] nothing = all(x);
-        for (int dots = 0; dots < 8; dots++) {
-            x.stock(dots * 1111, 2);
-        }
-        for (int dots = 0; dots < 12; dots++) {
-            x.cell(dots * 801);
-        }
-        x.mode(1);
-        x.shrink(2);
-        x.auction();
-        x.image(1);
-        long[] much = all(x);
-        x.restore(0);
-        same("nothing", all(x), nothing);
-        x.restore(1);
-        same("much", all(x), much);
-    }
-
-    private static void imagesAreApart() {
-        BidMosaic x = threeSlots();
-        x.image(0);
-        x.cell(7);
-        x.image(1);
-        x.restore(0);
-        check.due("CELLS of IMAGE 0", x.told(3), 2);
-        check.due("an older IMAGE leaves the newer one", x.restore(1), 1);
-        check.due("CELLS of IMAGE 1", x.told(3), 3);
-        BidMosaic other = new BidMosaic();
-        check.due("another object has none", other.restore(0), BidMosaic.STATE);
-    }
-
-    private static void restoreIsRefused() {
-        BidMosaic x = threeSlots();
-        x.auction();
-        long[] before = all(x);
-        for (int wrong : new int[] {-1, 2, Integer.MIN_VALUE, Integer.MAX_VALUE}) {
-            check.due("image(" + wrong + ")", x.image(wrong), BidMosaic.OUTSIDE);
-            check.due("restore(" + wrong + ")", x.restore(wrong), BidMosaic.OUTSIDE);
-        }
-        check.due("restore(0)", x.restore(0), BidMosaic.STATE);
-        check.due("restore(1)", x.restore(1), BidMosaic.STATE);
-        x.image(1);
-        check.due("restore(0)", x.restore(0), BidMosaic.STATE);
-        check.due("restore(1)", x.restore(1), 1);
-        same("refusals change nothing", all(x), before);
-    }
-
     private static void told() {
         BidMosaic x = threeSlots();
         x.shrink(5);
@@ -264,56 +182,6 @@ final class WhoHasWhatTest {
     private static void tolds(BidMosaic x, int... want) {
         for (int what = 0; what < want.length; what++) {
             check.due("told(" + what + ")", x.told(what), want[what]);
-        }
-    }
-
-    private static void spoil(BidMosaic x) {
-        x.mode(1 - x.told(0));
-        x.shrink(x.told(1) == 2 ? 3 : 2);
-        x.drop(x.kind(0, 0));
-        x.stock(8888, 4);
-        x.stock(7777, 4);
-        x.remove(0);
-        x.cell(1234);
-        x.change(0, 4321);
-        x.auction();
-        x.change(0, 8765);
-    }
-
-    /** Every answer that can be had without a change. */
-    private static long[] all(BidMosaic x) {
-        long[] answers = new long[400];
-        int n = 0;
-        for (int what = 0; what < 9; what++) {
-            answers[n++] = x.told(what);
-        }
-        for (int cell = 0; cell < 13; cell++) {
-            answers[n++] = x.told(100 + cell);
-            answers[n++] = x.place(cell);
-            answers[n++] = x.gain(cell, 0);
-            answers[n++] = x.gain(cell, 1);
-        }
-        for (int kind = 0; kind < 9; kind++) {
-            for (int what = 0; what < 4; what++) {
-                answers[n++] = x.kind(kind, what);
-            }
-            for (int cell = 0; cell < 12; cell++) {
-                answers[n++] = x.difference(cell, kind);
-            }
-        }
-        for (int i = 0; i < 17; i++) {
-            for (int what = 0; what < 3; what++) {
-                answers[n++] = x.slot(i, what);
-                answers[n++] = x.phase(i, what);
-            }
-        }
-        answers[n++] = x.total();
-        return answers;
-    }
-
-    private static void same(String what, long[] got, long[] want) {
-        for (int i = 0; i < want.length; i++) {
-            check.due(what + ", answer " + i, got[i], want[i]);
         }
     }
 }
