@@ -77,6 +77,7 @@ final class BidPromisesTest {
             }
             stocks += "; stock " + slots / 4 + " 1";
         }
+        run(States.TOO_FEW_SLOTS).leavesAll("auction", NO);
         run(States.times(12, "cell 5") + "; stock 0 4; stock 1 4; stock 2 3").leavesAll("auction", NO);
         run(States.times(12, "cell 5") + "; stock 0 1").leavesAll("auction", NO);
         run(States.FULL_DONE + "; drop 0; drop 1111").gives("told 4", 12);

@@ -345,6 +345,14 @@ final class BidTermsTest {
             }
         }
         run("stock 3 1").gives("told 5", 0);
+        run("stock 8 1; stock 9 1; auction").gives("told 5", 1);
+        for (int cell = 0; cell < 12; cell++) {
+            run(States.FULL_DONE + "; remove " + cell).gives("told 5", 0);
+        }
+        for (int kind = 0; kind < 8; kind++) {
+            run(States.FULL_DONE + "; drop " + kind * 1111).gives("told 5", 0);
+            run("stock 8 1; stock 9 1; auction; stock " + (kind + 2) + " 1").gives("told 5", 0);
+        }
     }
 
     private static void refusedCallsLeaveItValid() {

@@ -9,6 +9,8 @@ final class States {
     static final String FEW_SPOILT = FEW_DONE + "; mode 1";
     /** IMAGE 0 is kept, IMAGE 1 is not. */
     static final String FEW_KEPT = FEW_DONE + "; shrink 7; image 0; change 1 1234; repair; change 0 4321";
+    /** As FEW_SPOILT, but there are more CELLS than SLOTS, and nothing is as it is at first. */
+    static final String TOO_FEW_SLOTS = "mode 1; shrink 9; stock 3 1; cell 1; auction; image 0; change 0 7; cell 2; cell 3";
 
     /** 8 KINDS of 2, from 0 on by 1111; 12 CELLS, from 0 on by 801. */
     static final String FULL = full();
@@ -16,9 +18,9 @@ final class States {
     /** CELL 11 wants 0017 then. */
     static final String FULL_CHANGED = FULL_DONE + "; change 11 17";
 
-    static final String[] ALL = {"", FEW, FEW_DONE, FEW_CHANGED, FEW_REPAIRED, FEW_SPOILT, FEW_KEPT, FULL, FULL_DONE,
-        FULL_CHANGED};
-    static final String[] WITHOUT_VALID = {"", FEW, FEW_SPOILT, FULL};
+    static final String[] ALL = {"", FEW, FEW_DONE, FEW_CHANGED, FEW_REPAIRED, FEW_SPOILT, FEW_KEPT, TOO_FEW_SLOTS, FULL,
+        FULL_DONE, FULL_CHANGED};
+    static final String[] WITHOUT_VALID = {"", FEW, FEW_SPOILT, TOO_FEW_SLOTS, FULL};
     static final String[] DONE = {FEW_DONE, FEW_REPAIRED, FULL_DONE};
     static final String[] NOT_DONE = {FEW_CHANGED, FEW_KEPT, FULL_CHANGED};
 

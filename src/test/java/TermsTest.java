@@ -4,6 +4,7 @@ final class TermsTest {
     private static final Check check = new Check();
 
     public static void main(String[] args) {
+        callsOfAnObject();
         firstRefusalThatFits();
         orderOfItsOwn();
         refusalsChangeNothing();
@@ -24,6 +25,21 @@ final class TermsTest {
 
     private static Run run(String text) {
         return new Run(check, text);
+    }
+
+    /** "An object is used for at most 512 calls": the 512th is answered like any other, and no later one throws. */
+    private static void callsOfAnObject() {
+        int bids = run(States.FEW).answer("auction");
+        Run behind511 = run(States.FEW + "; " + States.times(507, "auction"));
+        behind511.gives("auction", bids);
+        behind511.gives("total", run(States.FEW_DONE).answer("total"));
+        behind511.gives("cell 3", 3);
+        behind511.gives("slot 3 0", UNKNOWN);
+        BidMosaic x = run(States.FULL_DONE).play();
+        for (int i = 0; i < 2000; i++) {
+            x.change(i % 12, i % 2 * 9999);
+            x.repair();
+        }
     }
 
     /** "Calls that are refused answer, the first of these that fits: UNKNOWN, OUTSIDE, NO, STATE, FULL." */
