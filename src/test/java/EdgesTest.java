@@ -1,4 +1,10 @@
 import java.lang.management.ManagementFactory;
+import java.lang.reflect.Array;
+import java.lang.reflect.Field;
+import java.lang.reflect.Modifier;
+import java.util.Collections;
+import java.util.IdentityHashMap;
+import java.util.Set;
 
 /** No call throws or fails to end, refusals change nothing, and a run makes few objects. */
 final class EdgesTest {
@@ -16,6 +22,7 @@ final class EdgesTest {
         dearestRepair();
         pricesStayFarFromGone();
         fewObjects();
+        roomOfAnObject();
         check.end();
     }
 
@@ -186,6 +193,45 @@ final class EdgesTest {
             most = seed < 10 ? 0 : Math.max(most, allocated() - before);
         }
         check.holds("bytes made in a run: " + most, most < 16384);
+    }
+
+    /** What is there at the end of a run, with both IMAGES: objects and arrays, their fields and elements. */
+    private static void roomOfAnObject() {
+        BidMosaic x = inState(5);
+        x.image(0);
+        x.image(1);
+        int[] room = new int[2];
+        try {
+            countRoom(x, Collections.newSetFromMap(new IdentityHashMap<>()), room);
+        } catch (IllegalAccessException e) {
+            check.holds("all can be counted: " + e, false);
+        }
+        check.holds("the room is counted: " + room[0] + " objects, " + room[1] + " numbers", room[0] > 5 && room[1] > 100);
+        check.holds("objects and arrays: " + room[0], room[0] <= 64);
+        check.holds("fields and elements: " + room[1], room[1] <= 1024);
+    }
+
+    private static void countRoom(Object thing, Set<Object> seen, int[] room) throws IllegalAccessException {
+        if (thing == null || !seen.add(thing)) {
+            return;
+        }
+        room[0]++;
+        if (thing.getClass().isArray()) {
+            room[1] += Array.getLength(thing);
+            for (int i = 0; thing instanceof Object[] && i < Array.getLength(thing); i++) {
+                countRoom(Array.get(thing, i), seen, room);
+            }
+            return;
+        }
+        for (Field field : thing.getClass().getDeclaredFields()) {
+            if (!Modifier.isStatic(field.getModifiers())) {
+                room[1]++;
+                field.setAccessible(true);
+                if (!field.getType().isPrimitive()) {
+                    countRoom(field.get(thing), seen, room);
+                }
+            }
+        }
     }
 
     private static long allocated() {
